@@ -789,45 +789,45 @@ public final class RingArticles {
                 place++;
             }
             start = place;
+            token = sortAt(place);
+            if (token != END) {
+                place++;
+            }
+            while (place < length && (token == LETTERS || token == NUMBER) && sortAt(place) == token) {
+                place++;
+            }
             value = 0;
-            if (place >= length) {
-                token = END;
-            } else if (isLetter(text[place])) {
-                takeLetters();
-            } else if (isDigit(text[place])) {
-                takeNumber();
+            if (token == LETTERS && place - start == 1) {
+                value = text[start];
+            } else if (token == NUMBER) {
+                weighNumber();
+            }
+        }
+
+        /** A NUMBER is well by its length alone: two signs, or one where it begins with 0. */
+        private void weighNumber() {
+            int first = text[start] - '0';
+            if (place - start == 1) {
+                value = first;
+            } else if (place - start == 2 && first > 0) {
+                value = first * 10 + text[start + 1] - '0';
             } else {
-                token = text[place] == ';' ? STOP : WRONG;
-                place++;
+                token = WRONG;
             }
         }
 
-        private void takeLetters() {
-            int first = text[place];
-            while (place < length && isLetter(text[place])) {
-                place++;
+        private int sortAt(int i) {
+            if (i < 0 || i >= length || i >= BYTES) {
+                return END;
             }
-            token = LETTERS;
-            value = place - start == 1 ? first : 0;
-        }
-
-        private void takeNumber() {
-            boolean zeroAhead = text[place] == '0';
-            while (place < length && isDigit(text[place])) {
-                // Held at 100, which is too much already, so that no row of digits runs over.
-                value = Math.min(100, value * 10 + text[place] - '0');
-                place++;
+            int c = text[i];
+            if (c >= 'a' && c <= 'z') {
+                return LETTERS;
             }
-            boolean alone = place - start == 1;
-            token = value > 99 || zeroAhead && !alone ? WRONG : NUMBER;
-        }
-
-        private static boolean isLetter(int c) {
-            return c >= 'a' && c <= 'z';
-        }
-
-        private static boolean isDigit(int c) {
-            return c >= '0' && c <= '9';
+            if (c >= '0' && c <= '9') {
+                return NUMBER;
+            }
+            return c == ';' ? STOP : WRONG;
         }
     }
 

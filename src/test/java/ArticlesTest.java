@@ -8,6 +8,7 @@ public final class ArticlesTest {
         clearing();
         whatIsTold();
         readAnew();
+        readManyTimes();
         faults();
         faultsOfTooMany();
         faultsOfNumbers();
@@ -100,7 +101,9 @@ public final class ArticlesTest {
         RingArticles x = Check.crew(Check.CREW);
         x.chases(0);
         x.chases(3);
+        x.shares();
         x.hides(1, 5);
+        x.chases(1);
         x.maroons(0);
         x.saw(1, 0);
         x.keep(0);
@@ -131,6 +134,23 @@ public final class ArticlesTest {
         Check.due("4: THE TEXT is empty then", 0, x.count(6));
     }
 
+    private static void readManyTimes() {
+        RingArticles x = new RingArticles();
+        for (int time = 0; time < 3; time++) {
+            Check.due("4: all of it", 17, Check.read(x, Check.CREW));
+            x.chases(1);
+            x.chases(3);
+            Check.due("4: TAKEN", 1, x.ship(1, 2));
+            Check.due("4: three items", 3, Check.read(x, "h1 0 0;h1 0 0;s60 1;"));
+            Check.same("4: nobody LIKES anybody", Check.row(0, 0), Check.hands(x, 3));
+            Check.due("4: one ship", 1, x.count(1));
+            Check.due("4: no pieces", 0, x.count(2));
+            Check.due("4: WOUND as at first", 10, x.count(3));
+            x.chases(0);
+            Check.due("4: let go", 2, x.ship(0, 2));
+        }
+    }
+
     private static void fault(String text, int place) {
         RingArticles x = new RingArticles();
         Check.due("4: FAULT of '" + text + "'", -10 - place, Check.read(x, text));
@@ -155,6 +175,8 @@ public final class ArticlesTest {
         fault("hh1 0 0;", 0);
         fault("hand 1 0 0;", 0);
         fault("lo 1;", 0);
+        fault("hz1 0 0;", 0);
+        fault("ah1 0 0;", 0);
         fault(";", 0);
         fault("5;", 0);
         fault("100;", 0);

@@ -34,6 +34,10 @@ public final class DeedsTest {
         }
         Check.due("8: refused calls are no steps", 2, x.count(5));
 
+        x.chases(0);
+        Check.due("8: TAKEN earlier", 1, x.ship(1, 2));
+        Check.due("8: TAKEN now", 1, x.ship(0, 2));
+
         RingArticles even = Check.crew("h1 9 3;h1 2 7;h1 2 7;h1 0 0;s60 1;s60 2;s60 3;s11 0;");
         even.chases(0);
         even.chases(1);
@@ -204,6 +208,10 @@ public final class DeedsTest {
         Check.due("14: THE CHEST", 0, x.now(0));
         Check.due("14: none again", Check.STATE, x.undo());
         Check.due("14: chased again", 40, x.chases(0));
+        x.undo();
+        x.maroons(2);
+        x.chases(0);
+        Check.due("14: what was TAKEN once is let go", 2, x.ship(0, 2));
     }
 
     private static void tenAreKnown() {
@@ -336,5 +344,14 @@ public final class DeedsTest {
         x.back(0);
         Check.due("29: an IMAGE is not changed by what is UNDONE later", 1, x.undo());
         Check.due("29: nor what it knows", 99, x.now(0));
+        x.undo();
+        x.maroons(0);
+        x.chases(0);
+        x.back(0);
+        x.undo();
+        Check.due("29: what was ABOARD ahead of the hiding", 1, x.now(2));
+        Check.due("29: THE CHEST ahead of the hiding", 99, x.now(0));
+        x.undo();
+        Check.due("29: what was ABOARD ahead of the chase", 1, x.now(2));
     }
 }
