@@ -13,14 +13,20 @@ final class Check {
         + "s12 40;s16 70;s3 9;s30 99;p30;p12;p7;w15;";
 
     private static int wrong = 0;
+    private static String sentence = "";
 
     private Check() {
+    }
+
+    /** The sentence that stands ahead of every answer that is not due, until another one does. */
+    static void under(String words) {
+        sentence = words;
     }
 
     static void due(String what, long want, long got) {
         if (want != got) {
             wrong++;
-            System.out.println(what + " answered " + got + ", due is " + want);
+            System.out.println(sentence + what + " answered " + got + ", due is " + want);
         }
     }
 
