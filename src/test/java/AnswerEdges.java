@@ -54,9 +54,9 @@ final class AnswerEdges {
         Sentences.of("Promise 18", "DEAL: how far (p = -1), the HAND of a PIECE; NONE.");
         RingArticles x = Check.crew("h2 0 0;h1 0 0;p1;p2;p3;p4;p5;");
         // PARTS are 4 and 1 of 5, WORTH is 15: HAND 1 has the piece of 3, or else those of 1 and 2.
-        Check.same("five PIECES", Check.row(0, 0, 0, 1, 0, 0), deals(x));
+        Check.same("five PIECES", Check.row(0, 0, 0, 1, 0, 0), Rows.deals(x));
         x.maroons(0);
-        Check.same("HAND 1 has all", Check.row(0, 1, 1, 1, 1, 1), deals(x));
+        Check.same("HAND 1 has all", Check.row(0, 1, 1, 1, 1, 1), Rows.deals(x));
         x.maroons(1);
         Check.same("nobody is ABOARD", Check.row(Check.NONE, Check.NONE, Check.NONE),
             Check.row(x.deal(-1), x.deal(0), x.deal(4)));
@@ -70,20 +70,15 @@ final class AnswerEdges {
         Check.due("of one PIECE, the second", Check.BAD, Check.crew("h1 0 0;p1;").deal(1));
     }
 
-    private static int[] deals(RingArticles x) {
-        return Check.row(x.deal(-1), x.deal(0), x.deal(1), x.deal(2), x.deal(3), x.deal(4));
-    }
-
     private static void raid() {
         Sentences.of("Promise 19", "RAID: how much (i = -1), the i-th SHIP (NONE: not so many).");
         RingArticles x = Check.crew("h1 5 0;s6 9;s5 1;s5 2;s0 4;s0 8;");
-        Check.same("five SHIPS", Check.row(15, 1, 2, 0, 3, 4), Check.row(x.raid(-1), x.raid(0), x.raid(1), x.raid(2),
-            x.raid(3), x.raid(4)));
+        Check.same("five SHIPS", Check.row(15, 1, 2, 0, 3, 4), Rows.raids(x));
         x.chases(1);
-        Check.same("four SHIPS", Check.row(14, 2, 0, 3, 4, Check.NONE), Check.row(x.raid(-1), x.raid(0), x.raid(1),
-            x.raid(2), x.raid(3), x.raid(4)));
+        Check.same("four SHIPS", Check.row(14, 2, 0, 3, 4, Check.NONE), Rows.raids(x));
         RingArticles none = Check.crew("h1 5 0;");
-        Check.same("no SHIPS", Check.row(0, Check.NONE, Check.NONE), Check.row(none.raid(-1), none.raid(0), none.raid(4)));
+        Check.same("no SHIPS", Check.row(0, Check.NONE, Check.NONE),
+            Check.row(none.raid(-1), none.raid(0), none.raid(4)));
         Sentences.of("Promise 19", "BAD (i -1 .. 4).");
         for (int i : PromiseEdges.beyond(-1, 4)) {
             Check.due("i is " + i, Check.BAD, x.raid(i));
@@ -97,8 +92,8 @@ final class AnswerEdges {
         int[][] due = {{1, 1, 1, 1, 1, 1, 1, 1}, {1, 1, 24, 25, 3, 4, 0, 1}, {1, 1, 16, 25, 1, 4, 0, 1},
             {0, 1, 0, 1, 0, 1, 0, 1}};
         for (int s = 0; s < 4; s++) {
-            Check.same("SHIP " + s, due[s], Check.row(x.odds(s, 0, 0), x.odds(s, 0, 1), x.odds(s, 2, 0), x.odds(s, 2, 1),
-                x.odds(s, 5, 0), x.odds(s, 5, 1), x.odds(s, 10, 0), x.odds(s, 10, 1)));
+            Check.same("SHIP " + s, due[s], Check.row(x.odds(s, 0, 0), x.odds(s, 0, 1), x.odds(s, 2, 0),
+                x.odds(s, 2, 1), x.odds(s, 5, 0), x.odds(s, 5, 1), x.odds(s, 10, 0), x.odds(s, 10, 1)));
         }
         x.chases(2);
         Check.same("of one that was met", Check.row(1, 4), Check.row(x.odds(2, 5, 0), x.odds(2, 5, 1)));
@@ -129,13 +124,13 @@ final class AnswerEdges {
     private static void split() {
         Sentences.of("Promise 22", "SPLIT: how many (what = 0), the first (1, bits; NONE: nobody is ABOARD).");
         RingArticles x = Check.crew("h1 0 0;".repeat(6) + "l0 5;");
-        Check.same("six", Check.row(16, 33), Check.row(x.split(0), x.split(1)));
+        Check.same("six", Check.row(16, 33), Rows.splits(x));
         for (int h = 0; h < 5; h++) {
             x.maroons(h);
         }
-        Check.same("the sixth alone", Check.row(1, 32), Check.row(x.split(0), x.split(1)));
+        Check.same("the sixth alone", Check.row(1, 32), Rows.splits(x));
         x.maroons(5);
-        Check.same("nobody", Check.row(0, Check.NONE), Check.row(x.split(0), x.split(1)));
+        Check.same("nobody", Check.row(0, Check.NONE), Rows.splits(x));
         Sentences.of("Promise 22", "BAD.");
         for (int what : PromiseEdges.beyond(0, 1)) {
             Check.due("what " + what, Check.BAD, x.split(what));
@@ -211,8 +206,7 @@ final class AnswerEdges {
     private static void mark() {
         Sentences.of("Promise 27", "MARK.");
         RingArticles x = Check.crew("h5 4 3;h1 1 1;");
-        Check.same("KINDS 0 to 5", Check.row(5, 9, 5, 18, 8, 5), Check.row(x.mark(0, 0), x.mark(1, 0), x.mark(2, 0),
-            x.mark(3, 0), x.mark(4, 0), x.mark(5, 0)));
+        Check.same("KINDS 0 to 5", Check.row(5, 9, 5, 18, 8, 5), Rows.marks(x, 0));
         Sentences.of("Promise 27", "NO: BAD.");
         for (int kind : PromiseEdges.beyond(0, 5)) {
             Check.due("KIND " + kind, Check.NO, x.mark(kind, 0));
@@ -233,16 +227,12 @@ final class AnswerEdges {
             x.shares();
         }
         Check.tell(x, " ".repeat(151));
-        Check.same("all of it", Check.row(6, 5, 5, 50, 6, 10, 150), counts(x));
-        Check.same("nothing", Check.row(0, 0, 0, 10, 0, 0, 0), counts(new RingArticles()));
+        Check.same("all of it", Check.row(6, 5, 5, 50, 6, 10, 150), Rows.counts(x));
+        Check.same("nothing", Check.row(0, 0, 0, 10, 0, 0, 0), Rows.counts(new RingArticles()));
         Sentences.of("Promise 30", "BAD.");
         for (int what : PromiseEdges.beyond(0, 6)) {
             Check.due("what " + what, Check.BAD, x.count(what));
         }
-    }
-
-    private static int[] counts(RingArticles x) {
-        return Check.row(x.count(0), x.count(1), x.count(2), x.count(3), x.count(4), x.count(5), x.count(6));
     }
 
     private static void trace() {

@@ -53,103 +53,93 @@ final class AskingEdges {
         Look.same("as it was kept", Look.at(other), Look.at(asked));
     }
 
-    private static int[] dues(RingArticles x) {
-        int[] row = new int[x.count(0)];
-        for (int h = 0; h < row.length; h++) {
-            row[h] = x.due(h);
-        }
-        return row;
-    }
-
     private static void due() {
         Sentences.of(TERMS, "DUE of a HAND: the coins he would have more, if it were SHARED NOW (wounds, too; 0, if "
             + "nobody is ABOARD).");
         RingArticles x = Check.crew("h1 1 0;h1 2 0;h1 3 0;s60 0;s60 0;s60 0;s0 59;s0 83;w20;");
-        Check.same("THE CHEST is empty", Check.row(0, 0, 0), dues(x));
+        Check.same("THE CHEST is empty", Check.row(0, 0, 0), Rows.dues(x));
         x.chases(0);
         x.maroons(0);
         x.chases(1);
         x.chases(2);
-        Check.same("nothing to pay wounds with", Check.row(0, 0, 0), dues(x));
+        Check.same("nothing to pay wounds with", Check.row(0, 0, 0), Rows.dues(x));
         x.chases(3);
-        Check.same("wounds of one MAROONED, too", Check.row(20, 32, 6), dues(x));
+        Check.same("wounds of one MAROONED, too", Check.row(20, 32, 6), Rows.dues(x));
         x.shares();
-        Check.same("1 coin is left", Check.row(0, 0, 0), dues(x));
+        Check.same("1 coin is left", Check.row(0, 0, 0), Rows.dues(x));
         x.chases(4);
-        Check.same("how many more, not how many in all", Check.row(0, 62, 21), dues(x));
+        Check.same("how many more, not how many in all", Check.row(0, 62, 21), Rows.dues(x));
         x.maroons(1);
         x.maroons(2);
-        Check.same("nobody is ABOARD, a WOUND is not paid", Check.row(0, 0, 0), dues(x));
-    }
-
-    private static int[] raids(RingArticles x) {
-        return Check.row(x.raid(-1), x.raid(0), x.raid(1), x.raid(2), x.raid(3), x.raid(4));
+        Check.same("nobody is ABOARD, a WOUND is not paid", Check.row(0, 0, 0), Rows.dues(x));
     }
 
     private static void raid() {
         int none = Check.NONE;
         Sentences.of(TERMS, "RAID: of all orders of SHIPS that were not met that by which, CHASED one behind another, "
             + "most GOLD is TAKEN, of several the first (by numbers): how much; the i-th SHIP (NONE: not so many).");
-        Check.same("no SHIPS", Check.row(0, none, none, none, none, none), raids(Check.crew("h1 1 1;")));
-        Check.same("none can be TAKEN", Check.row(0, 0, 1, none, none, none), raids(Check.crew("h1 1 1;s9 9;s8 8;")));
-        Check.same("GOLD is 0", Check.row(0, 0, none, none, none, none), raids(Check.crew("h1 1 1;s0 0;")));
-        Check.same("five, all TAKEN", Check.row(495, 0, 1, 2, 3, 4), raids(Check.crew("h1 1 1;" + "s1 99;".repeat(5))));
-        Check.same("nobody ABOARD", Check.row(9, 0, 1, 2, none, none), raids(Check.crew("s1 9;s0 4;s0 5;")));
+        Check.same("no SHIPS", Check.row(0, none, none, none, none, none), Rows.raids(Check.crew("h1 1 1;")));
+        Check.same("none can be TAKEN", Check.row(0, 0, 1, none, none, none), Rows.raids(Check.crew("h1 1 1;s9 9;s8 8;")));
+        Check.same("GOLD is 0", Check.row(0, 0, none, none, none, none), Rows.raids(Check.crew("h1 1 1;s0 0;")));
+        Check.same("five, all TAKEN", Check.row(495, 0, 1, 2, 3, 4), Rows.raids(Check.crew("h1 1 1;" + "s1 99;".repeat(5))));
+        Check.same("nobody ABOARD", Check.row(9, 0, 1, 2, none, none), Rows.raids(Check.crew("s1 9;s0 4;s0 5;")));
+        RingArticles fewer = Check.crew("h1 5 0;h1 5 0;s6 9;");
+        Check.due("by two", 9, fewer.raid(-1));
+        fewer.maroons(1);
+        Check.due("who is MAROONED does not fight", 0, fewer.raid(-1));
         RingArticles x = Check.crew("h1 5 0;s5 1;s5 2;s0 4;s6 8;");
-        Check.same("the one that can't be TAKEN is last", Check.row(7, 0, 1, 2, 3, none), raids(x));
+        Check.same("the one that can't be TAKEN is last", Check.row(7, 0, 1, 2, 3, none), Rows.raids(x));
         x.chases(1);
-        Check.same("one was TAKEN", Check.row(5, 0, 2, 3, none, none), raids(x));
+        Check.same("one was TAKEN", Check.row(5, 0, 2, 3, none, none), Rows.raids(x));
         x.chases(3);
-        Check.same("one was let go: FORCE is 4", Check.row(4, 0, 2, none, none, none), raids(x));
+        Check.same("one was let go: FORCE is 4", Check.row(4, 0, 2, none, none, none), Rows.raids(x));
         x.chases(0);
         x.chases(2);
-        Check.same("all were met", Check.row(0, none, none, none, none, none), raids(x));
+        Check.same("all were met", Check.row(0, none, none, none, none, none), Rows.raids(x));
     }
 
     private static void raidByWounds() {
         RingArticles x = Check.crew("h1 2 0;h1 3 0;s6 90;s5 10;s4 7;s3 1;");
-        Check.same("a chase that fails costs FORCE", Check.row(18, 1, 0, 2, 3, Check.NONE), raids(x));
+        Check.same("a chase that fails costs FORCE", Check.row(18, 1, 0, 2, 3, Check.NONE), Rows.raids(x));
         x = Check.crew("h1 1 0;h1 4 0;s9 1;s9 1;s9 1;s4 50;s5 20;");
-        Check.same("FORCE falls to 4 and no deeper", Check.row(70, 3, 4, 0, 1, 2), raids(x));
+        Check.same("FORCE falls to 4 and no deeper", Check.row(70, 3, 4, 0, 1, 2), Rows.raids(x));
         x = Check.crew("h1 9 0;h1 2 0;s60 8;s60 9;s11 1;s10 2;s9 4;");
-        Check.same("chases that fail stand as early as they may", Check.row(7, 2, 0, 3, 1, 4), raids(x));
+        Check.same("chases that fail stand as early as they may", Check.row(7, 2, 0, 3, 1, 4), Rows.raids(x));
         x = Check.crew("h1 9 0;h1 2 0;s0 1;s60 8;s11 1;s10 2;s9 4;");
         x.chases(0);
         x.hides(1, 1);
         x.finds(1);
-        Check.same("WOUNDED already", Check.row(6, 3, 1, 2, 4, Check.NONE), raids(x));
-    }
-
-    private static int[] deals(RingArticles x) {
-        int[] row = new int[x.count(2) + 1];
-        for (int p = -1; p < x.count(2); p++) {
-            row[p + 1] = x.deal(p);
-        }
-        return row;
+        Check.same("WOUNDED already", Check.row(6, 3, 1, 2, 4, Check.NONE), Rows.raids(x));
     }
 
     private static void deal() {
         Sentences.of(TERMS, "DEAL: all PIECES given to those ABOARD: of all ways that by which the greatest of how far "
             + "each is from his due is least (his PIECES times all PARTS, from his PART times all WORTH, up or down), "
-            + "of several the first (HAND of PIECE 0, then 1, ..): how far; the HAND of a PIECE; NONE (nobody ABOARD).");
-        Check.same("no PIECES", Check.row(0), deals(Check.crew("h1 0 0;h1 0 0;")));
+            + "of several the first (HAND of PIECE 0, then 1, ..): how far; the HAND of a PIECE; NONE (nobody "
+            + "ABOARD).");
+        Check.same("no PIECES", Check.row(0), Rows.deals(Check.crew("h1 0 0;h1 0 0;")));
         // PARTS are 2, 1, 1 of 4, WORTH is 8: due are 16, 8, 8, and the PIECE brings 32.
-        Check.same("up", Check.row(16, 0), deals(Check.crew("h1 0 0;h1 0 0;h1 0 0;p8;")));
+        Check.same("up", Check.row(16, 0), Rows.deals(Check.crew("h1 0 0;h1 0 0;h1 0 0;p8;")));
         // PARTS are 6, 5, 5 of 16, WORTH is 16: due are 96, 80, 80; by 0, 1, 2 HAND 0 would be 32 under his.
-        Check.same("down", Check.row(16, 1, 0, 2), deals(Check.crew("h3 0 0;h5 0 0;h5 0 0;p4;p6;p6;")));
-        Check.same("of several the first", Check.row(0, 0, 1), deals(Check.crew("h1 0 0;h2 0 0;p3;p3;")));
-        Check.same("five PIECES alike", Check.row(0, 0, 0, 1, 2, 3), deals(Check.crew("h1 0 0;".repeat(4) + "p9;".repeat(5))));
+        Check.same("down", Check.row(16, 1, 0, 2), Rows.deals(Check.crew("h3 0 0;h5 0 0;h5 0 0;p4;p6;p6;")));
+        Check.same("of several the first", Check.row(0, 0, 1), Rows.deals(Check.crew("h1 0 0;h2 0 0;p3;p3;")));
+        Check.same("five PIECES alike", Check.row(0, 0, 0, 1, 2, 3),
+            Rows.deals(Check.crew("h1 0 0;".repeat(4) + "p9;".repeat(5))));
         RingArticles x = Check.crew("h1 0 0;h1 0 0;h1 0 0;l0 1;l2 1;p5;p10;");
         // PARTS are 2, 1, 1 of 4, WORTH is 15: due are 30, 15, 15; PIECES bring 20 and 40.
-        Check.same("three HANDS", Check.row(15, 1, 0), deals(x));
+        Check.same("three HANDS", Check.row(15, 1, 0), Rows.deals(x));
         x.votes(1);
-        Check.same("the CAPTAIN has double", Check.row(15, 0, 1), deals(x));
+        Check.same("the CAPTAIN has double", Check.row(15, 0, 1), Rows.deals(x));
         x.maroons(0);
-        Check.same("to those ABOARD", Check.row(0, 2, 1), deals(x));
+        Check.same("to those ABOARD", Check.row(0, 2, 1), Rows.deals(x));
         x.maroons(1);
-        Check.same("one has all", Check.row(0, 2, 2), deals(x));
+        Check.same("one has all", Check.row(0, 2, 2), Rows.deals(x));
         x.maroons(2);
-        Check.same("nobody ABOARD", Check.row(Check.NONE, Check.NONE, Check.NONE), deals(x));
+        Check.same("nobody ABOARD", Check.row(Check.NONE, Check.NONE, Check.NONE), Rows.deals(x));
+        // HAND 1 with the piece of 50 is 98 over his due; whoever has the other one is nearer, but for him.
+        x = Check.crew("h1 0 0;h1 0 0;h1 0 0;h1 0 0;p1;p50;");
+        x.maroons(0);
+        Check.same("not to one MAROONED, though he is lowest", Check.row(98, 2, 1), Rows.deals(x));
     }
 
     private static void won() {
@@ -176,8 +166,8 @@ final class AskingEdges {
     }
 
     private static void rivals() {
-        Sentences.of(TERMS, "RIVALS: HANDS ABOARD (bits), the CAPTAIN too, whom those who LIKE them and they themselves "
-            + "would make CAPTAIN NOW.");
+        Sentences.of(TERMS, "RIVALS: HANDS ABOARD (bits), the CAPTAIN too, whom those who LIKE them and they "
+            + "themselves would make CAPTAIN NOW.");
         Check.due("nobody", 0, new RingArticles().now(6));
         Check.due("one alone", 1, Check.crew("h1 0 0;").now(6));
         Check.due("half of two", 0, Check.crew("h1 0 0;h1 0 0;").now(6));
@@ -195,14 +185,13 @@ final class AskingEdges {
     }
 
     private static void splits(String what, RingArticles x, int sets, int first) {
-        Check.due(what + ", how many", sets, x.split(0));
-        Check.due(what + ", the first", first, x.split(1));
+        Check.same(what + ", how many and the first", Check.row(sets, first), Rows.splits(x));
     }
 
     private static void split() {
         Sentences.of(TERMS, "SPLIT: sets of those ABOARD (with the lowest of them) that go on one ship, the others on "
-            + "another one (or nobody), so that nobody LIKES more on the other one than on his own: how many such sets; "
-            + "the first (bits, least).");
+            + "another one (or nobody), so that nobody LIKES more on the other one than on his own: how many such "
+            + "sets; the first (bits, least).");
         splits("nobody ABOARD", new RingArticles(), 0, Check.NONE);
         splits("one, and nobody on the other", Check.crew("h1 0 0;"), 1, 1);
         splits("two", Check.crew("h1 0 0;h1 0 0;"), 2, 1);
@@ -252,7 +241,8 @@ final class AskingEdges {
     }
 
     private static void keen() {
-        Sentences.of(TERMS, "KEEN: HANDS (bits) of whom there is no set told with him in it of which another one had it.");
+        Sentences.of(TERMS, "KEEN: HANDS (bits) of whom there is no set told with him in it of which another "
+            + "one had it.");
         Check.due("no HANDS", 0, new RingArticles().keen());
         RingArticles x = Check.crew("h1 0 0;".repeat(6));
         Check.due("nothing told", 63, x.keen());
@@ -272,8 +262,7 @@ final class AskingEdges {
     }
 
     private static void odd(RingArticles x, int s, int tenths, int upper, int lower) {
-        Check.same("SHIP " + s + " by " + tenths, Check.row(upper, lower),
-            Check.row(x.odds(s, tenths, 0), x.odds(s, tenths, 1)));
+        Check.same("SHIP " + s + " by " + tenths, Check.row(upper, lower), Rows.odds(x, s, tenths));
     }
 
     private static void odds() {
@@ -319,7 +308,7 @@ final class AskingEdges {
         x.maroons(0);
         x.chases(1);
         x.chases(2);
-        Check.same("DUE", Check.row(20, 32, 6), dues(x));
+        Check.same("DUE", Check.row(20, 32, 6), Rows.dues(x));
         Check.due("ABOARD", 6, x.holds(0));
         Check.due("6 or more", 6, x.holds(6));
         Check.due("7 or more", 2, x.holds(7));

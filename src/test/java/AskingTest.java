@@ -16,29 +16,21 @@ public final class AskingTest {
         Check.end();
     }
 
-    private static int[] dues(RingArticles x) {
-        int[] row = new int[x.count(0)];
-        for (int h = 0; h < row.length; h++) {
-            row[h] = x.due(h);
-        }
-        return row;
-    }
-
     private static void dues() {
         RingArticles x = Check.crew(Check.CREW);
-        Check.same("16: nothing yet", Check.row(0, 0, 0, 0), dues(x));
+        Check.same("16: nothing yet", Check.row(0, 0, 0, 0), Rows.dues(x));
         x.chases(1);
         x.chases(3);
         x.chases(0);
         String before = Look.at(x);
-        Check.same("16: DUE, the WOUND too", Check.row(48, 12, 18, 21), dues(x));
+        Check.same("16: DUE, the WOUND too", Check.row(48, 12, 18, 21), Rows.dues(x));
         Look.same("16: nothing is changed", before, Look.at(x));
         x.maroons(3);
-        Check.same("16: MAROONED, his WOUND alone", Check.row(56, 14, 21, 15), dues(x));
+        Check.same("16: MAROONED, his WOUND alone", Check.row(56, 14, 21, 15), Rows.dues(x));
         x.maroons(0);
         x.maroons(1);
         x.maroons(2);
-        Check.same("16: nobody is ABOARD", Check.row(0, 0, 0, 0), dues(x));
+        Check.same("16: nobody is ABOARD", Check.row(0, 0, 0, 0), Rows.dues(x));
         for (int h : new int[] {-1, 4, Check.LEAST, Check.MOST}) {
             Check.due("16: no hand " + h, Check.BAD, x.due(h));
         }
@@ -67,30 +59,22 @@ public final class AskingTest {
         }
     }
 
-    private static int[] deals(RingArticles x) {
-        int[] row = new int[x.count(2) + 1];
-        for (int p = -1; p < x.count(2); p++) {
-            row[p + 1] = x.deal(p);
-        }
-        return row;
-    }
-
     private static void dealing() {
         // PARTS 2 and 1 of 3, WORTH 10 and 5: 10 times 3 is 2 times 15.
         RingArticles x = Check.crew("h1 0 0;h1 0 0;l0 1;p5;p10;");
-        Check.same("18: exactly", Check.row(0, 1, 0), deals(x));
+        Check.same("18: exactly", Check.row(0, 1, 0), Rows.deals(x));
         x.votes(1);
-        Check.same("18: by PARTS as they are then", Check.row(0, 0, 1), deals(x));
+        Check.same("18: by PARTS as they are then", Check.row(0, 0, 1), Rows.deals(x));
         x.maroons(1);
-        Check.same("18: one has all", Check.row(0, 0, 0), deals(x));
+        Check.same("18: one has all", Check.row(0, 0, 0), Rows.deals(x));
         // PARTS 2, 1, 1 of 4, WORTH 8: due are 16, 8, 8; one piece brings 32 at once.
         RingArticles one = Check.crew("h1 0 0;h1 0 0;h1 0 0;p8;");
-        Check.same("18: one piece", Check.row(16, 0), deals(one));
+        Check.same("18: one piece", Check.row(16, 0), Rows.deals(one));
         // PARTS 2 and 2 of 4: each has one of two alike; the first way is 0, 1.
         RingArticles even = Check.crew("h1 0 0;h2 0 0;p3;p3;");
-        Check.same("18: of several the first", Check.row(0, 0, 1), deals(even));
+        Check.same("18: of several the first", Check.row(0, 0, 1), Rows.deals(even));
         RingArticles far = Check.crew("h9 0 0;h1 0 0;p50;");
-        Check.same("18: up or down", Check.row(50, 0), deals(far));
+        Check.same("18: up or down", Check.row(50, 0), Rows.deals(far));
         Check.due("18: nothing is changed", 0, far.count(5));
     }
 
@@ -110,47 +94,37 @@ public final class AskingTest {
         }
     }
 
-    private static int[] raids(RingArticles x) {
-        int[] row = new int[6];
-        for (int i = -1; i <= 4; i++) {
-            row[i + 1] = x.raid(i);
-        }
-        return row;
-    }
-
     private static void raiding() {
         RingArticles x = Check.crew(Check.CREW);
-        Check.same("19: orders", Check.row(119, 0, 1, 2, 3, Check.NONE), raids(x));
+        Check.same("19: orders", Check.row(119, 0, 1, 2, 3, Check.NONE), Rows.raids(x));
         // FORCE 5: ship 0 is too strong, and would cost what ship 1 needs.
         RingArticles y = Check.crew("h1 2 0;h1 3 0;s6 90;s5 10;s4 7;s3 1;");
-        Check.same("19: the weakest last", Check.row(18, 1, 0, 2, 3, Check.NONE), raids(y));
+        Check.same("19: the weakest last", Check.row(18, 1, 0, 2, 3, Check.NONE), Rows.raids(y));
         String before = Look.at(y);
         y.raid(-1);
         Look.same("19: nothing is changed", before, Look.at(y));
         y.chases(1);
-        Check.same("19: those not met", Check.row(8, 0, 2, 3, Check.NONE, Check.NONE), raids(y));
+        Check.same("19: those not met", Check.row(8, 0, 2, 3, Check.NONE, Check.NONE), Rows.raids(y));
         y.chases(0);
         y.chases(2);
         y.chases(3);
         Check.same("19: all met", Check.row(0, Check.NONE, Check.NONE, Check.NONE, Check.NONE, Check.NONE),
-            raids(y));
+            Rows.raids(y));
     }
 
     private static void raidingEdges() {
         // Once the weakest fights for 0, FORCE falls no more.
         RingArticles x = Check.crew("h1 1 0;h1 4 0;s9 1;s9 1;s9 1;s4 50;s5 20;");
-        Check.same("19: FORCE falls by the weakest alone", Check.row(70, 3, 4, 0, 1, 2), raids(x));
+        Check.same("19: FORCE falls by the weakest alone", Check.row(70, 3, 4, 0, 1, 2), Rows.raids(x));
         RingArticles nobody = Check.crew("s1 9;s0 4;s0 5;");
-        Check.same("19: nobody", Check.row(9, 0, 1, 2, Check.NONE, Check.NONE), raids(nobody));
+        Check.same("19: nobody", Check.row(9, 0, 1, 2, Check.NONE, Check.NONE), Rows.raids(nobody));
         for (int i : new int[] {-2, 5, Check.LEAST, Check.MOST}) {
             Check.due("19: no place " + i, Check.BAD, x.raid(i));
         }
     }
 
     private static void odd(RingArticles x, int s, int tenths, int upper, int lower) {
-        String what = "20: odds of " + s + " by " + tenths;
-        Check.due(what + ", upper", upper, x.odds(s, tenths, 0));
-        Check.due(what + ", lower", lower, x.odds(s, tenths, 1));
+        Check.same("20: odds of " + s + " by " + tenths, Check.row(upper, lower), Rows.odds(x, s, tenths));
     }
 
     private static void odds() {
@@ -204,8 +178,7 @@ public final class AskingTest {
     }
 
     private static void splits(String what, RingArticles x, int sets, int first) {
-        Check.due("22: " + what + ", how many", sets, x.split(0));
-        Check.due("22: " + what + ", the first", first, x.split(1));
+        Check.same("22: " + what + ", how many and the first", Check.row(sets, first), Rows.splits(x));
     }
 
     private static void splitting() {

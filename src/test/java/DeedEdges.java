@@ -29,9 +29,9 @@ final class DeedEdges {
         for (int hands = 0; hands <= 6; hands++) {
             RingArticles x = Check.crew(Check.CREW);
             x.chases(1);
+            x.shares();
             x.chases(3);
             x.chases(0);
-            x.shares();
             x.votes(1);
             x.maroons(0);
             x.hides(1, 5);
@@ -44,6 +44,8 @@ final class DeedEdges {
                 Check.same("HAND " + h, Check.row(1, 0, 0, 0, 0, 0), Check.row(x.hand(h, 4), x.hand(h, 5),
                     x.hand(h, 6), x.hand(h, 7), x.hand(h, 8), x.hand(h, 9)));
             }
+            x.chases(1);
+            Check.due("a SHIP let go, where one was TAKEN", 2, x.ship(1, 2));
         }
     }
 
@@ -113,6 +115,9 @@ final class DeedEdges {
         Check.same("how they are", Check.row(1, 2, 1, 1),
             Check.row(x.ship(0, 2), x.ship(1, 2), x.ship(2, 2), x.ship(3, 2)));
         Check.same("WOUNDED by the one let go", Check.row(1, 0), Check.hands(x, 6));
+        RingArticles fewer = Check.crew("h1 3 0;h1 4 0;s4 9;s3 8;");
+        fewer.maroons(1);
+        Check.same("who is MAROONED does not fight", Check.row(8, -5), Check.row(fewer.chases(1), fewer.chases(0)));
     }
 
     private static void letGo() {
@@ -205,16 +210,41 @@ final class DeedEdges {
         Check.due("of 1 and 19 coins one more is paid", 0, x.shares());
         Check.same("COINS", Check.row(20, 52, 6), Check.hands(x, 5));
         Check.same("all are paid", Check.row(0, 0, 0), Check.hands(x, 7));
+        handByHand();
         RingArticles free = Check.crew("h1 0 0;s1 0;s1 0;w0;");
         free.chases(0);
         free.chases(1);
         Check.due("a WOUND is worth 0", 0, free.shares());
-        Check.same("paid for 0 coins", Check.row(0, 2, 0), Check.row(free.hand(0, 5), free.hand(0, 6), free.hand(0, 7)));
+        Check.same("paid for 0 coins", Check.row(0, 2, 0),
+            Check.row(free.hand(0, 5), free.hand(0, 6), free.hand(0, 7)));
         RingArticles dear = Check.crew("h1 0 0;s1 0;s0 50;w50;");
         dear.chases(0);
         dear.chases(1);
         dear.shares();
-        Check.same("a WOUND is worth 50", Check.row(50, 0, 0), Check.row(dear.hand(0, 5), dear.hand(0, 7), dear.now(0)));
+        Check.same("a WOUND is worth 50", Check.row(50, 0, 0),
+            Check.row(dear.hand(0, 5), dear.hand(0, 7), dear.now(0)));
+    }
+
+    private static void handByHand() {
+        RingArticles x = Check.crew("h1 0 0;h1 1 0;h1 9 0;s60 0;s60 0;s60 0;s0 25;");
+        x.chases(0);
+        x.chases(1);
+        x.maroons(0);
+        x.chases(2);
+        x.chases(3);
+        Check.due("what two wounds leave", 1, x.shares());
+        Check.same("both wounds of HAND 0 ahead of that of HAND 1", Check.row(20, 2, 1), Check.hands(x, 5));
+        Check.same("HAND 1 is not paid", Check.row(0, 1, 0), Check.hands(x, 7));
+        RingArticles cheap = Check.crew("h1 0 0;s1 0;s1 0;s0 1;w1;");
+        cheap.chases(0);
+        cheap.chases(1);
+        cheap.shares();
+        Check.same("a WOUND is worth 1, none is there", Check.row(0, 2, 0),
+            Check.row(cheap.hand(0, 5), cheap.hand(0, 7), cheap.now(0)));
+        cheap.chases(2);
+        cheap.shares();
+        Check.same("a WOUND is worth 1, one is there", Check.row(1, 1, 0),
+            Check.row(cheap.hand(0, 5), cheap.hand(0, 7), cheap.now(0)));
     }
 
     private static void partsArePaid() {
@@ -251,8 +281,8 @@ final class DeedEdges {
     }
 
     private static void voted() {
-        Sentences.of(TERMS, "VOTE for a HAND ABOARD: he is CAPTAIN, if those ABOARD who LIKE him, and he, are more than "
-            + "half of all ABOARD.");
+        Sentences.of(TERMS, "VOTE for a HAND ABOARD: he is CAPTAIN, if those ABOARD who LIKE him, and he, are more "
+            + "than half of all ABOARD.");
         for (int hands = 2; hands <= 6; hands++) {
             StringBuilder text = new StringBuilder("h1 0 0;".repeat(hands));
             for (int likers = 0; likers < hands; likers++) {
@@ -343,6 +373,13 @@ final class DeedEdges {
         }
         Check.due("older ones are lost", Check.STATE, x.undo());
         Look.same("and stay done", lookOf(behind(1)), lookOf(x));
+        RingArticles again = Check.crew("h1 4 0;h1 4 0;s8 9;");
+        again.chases(0);
+        again.undo();
+        Check.due("not met", 0, again.ship(0, 2));
+        again.maroons(0);
+        Check.due("what was TAKEN can't be now", -5, again.chases(0));
+        Check.due("it is let go", 2, again.ship(0, 2));
         Check.due("steps known of 2", 2, behind(1).count(5));
         Check.due("steps known of 10", 10, behind(9).count(5));
         Check.due("steps known of 11", 10, behind(10).count(5));
@@ -353,7 +390,7 @@ final class DeedEdges {
     }
 
     /** A crew that has CHASED once and done so many deeds more, of every sort. */
-    private static RingArticles behind(int steps) {
+    static RingArticles behind(int steps) {
         RingArticles x = Check.crew("h1 5 0;h1 0 9;l0 1;s0 99;s9 0;s0 1;");
         Check.due("CHASED", 99, x.chases(0));
         for (int step = 0; step < steps; step++) {

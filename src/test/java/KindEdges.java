@@ -10,7 +10,9 @@ final class KindEdges {
         marks();
         images();
         imagesHoldAllOfNow();
+        imagesOfManySteps();
         readAnew();
+        nothingOfAnOlderText();
         refused();
         refusedInOrder();
         no();
@@ -34,17 +36,17 @@ final class KindEdges {
     private static void marks() {
         Sentences.of(TERMS, "MARK of a HAND as if of a KIND (numbers in brackets come to THE TRACE as often as mark() "
             + "asks that body; \"up\" is what the KIND above does): HAND his HALVES (1). CARPENTER up, and FIGHT (10). "
-            + "MUSICIAN up less how often he is WOUNDED (100). BOY up times 2 (1000). SICK up, and EYES (10000). COOK up, "
-            + "and PISTOLS (100000).");
+            + "MUSICIAN up less how often he is WOUNDED (100). BOY up times 2 (1000). SICK up, and EYES (10000). COOK "
+            + "up, and PISTOLS (100000).");
         RingArticles x = Check.crew("h1 2 3;h9 9 9;s60 0;s60 0;s60 0;");
-        Check.same("at first", Check.row(1, 3, 1, 6, 4, 1), markRow(x, 0));
-        Check.same("most", Check.row(9, 18, 9, 36, 18, 9), markRow(x, 1));
+        Check.same("at first", Check.row(1, 3, 1, 6, 4, 1), Rows.marks(x, 0));
+        Check.same("most", Check.row(9, 18, 9, 36, 18, 9), Rows.marks(x, 1));
         Check.due("THE TRACE, twice all of it", 2 * 111226, x.trace());
         x.chases(0);
         x.chases(1);
         x.chases(2);
-        Check.same("WOUNDED thrice: below 0", Check.row(1, 3, -2, 6, 1, 1), markRow(x, 0));
-        Check.same("three PISTOLS", Check.row(9, 18, 9, 36, 18, 12), markRow(x, 1));
+        Check.same("WOUNDED thrice: below 0", Check.row(1, 3, -2, 6, 1, 1), Rows.marks(x, 0));
+        Check.same("three PISTOLS", Check.row(9, 18, 9, 36, 18, 12), Rows.marks(x, 1));
         x.undo();
         Check.due("WOUNDED twice: -1 is no refusal", -1, x.mark(2, 0));
         x.maroons(1);
@@ -53,10 +55,6 @@ final class KindEdges {
         x.mark(6, 0);
         x.mark(0, 2);
         Check.due("refused: THE TRACE stays", 4 * 111226 + 101 + 100001, x.trace());
-    }
-
-    private static int[] markRow(RingArticles x, int h) {
-        return Check.row(x.mark(0, h), x.mark(1, h), x.mark(2, h), x.mark(3, h), x.mark(4, h), x.mark(5, h));
     }
 
     private static void images() {
@@ -114,9 +112,38 @@ final class KindEdges {
                 Check.due("may be UNDONE, IMAGE " + image, twin.undo(), x.undo());
             }
             Look.same("ahead of all, IMAGE " + image, Look.at(twin), Look.at(x));
+            x.maroons(3);
+            x.maroons(2);
+            x.chases(0);
             x.back(image);
             Check.due("kept still", 9, x.count(5));
+            for (int step = 0; step < 9; step++) {
+                x.undo();
+            }
+            Look.same("ahead of all, and kept still", Look.at(twin), Look.at(x));
         }
+    }
+
+    private static void imagesOfManySteps() {
+        RingArticles x = DeedEdges.behind(11);
+        x.keep(0);
+        x.undo();
+        x.undo();
+        x.undo();
+        x.maroons(0);
+        x.back(0);
+        RingArticles twin = DeedEdges.behind(11);
+        for (int left = 9; left >= 0; left--) {
+            Check.due("ten of twelve may be UNDONE", left, x.undo());
+            Check.due("THE CHEST, " + left + " left", undoneChest(twin), x.now(0));
+        }
+        Check.due("older ones are lost", Check.STATE, x.undo());
+        Look.same("as ahead of them all", Look.at(twin), Look.at(x));
+    }
+
+    private static int undoneChest(RingArticles x) {
+        x.undo();
+        return x.now(0);
     }
 
     private static void readAnew() {
@@ -139,6 +166,28 @@ final class KindEdges {
         Check.due("IMAGE 1 is gone again", Check.STATE, x.back(1));
     }
 
+    /** More is read twice, so that no room in the object is new to the text that tells less. */
+    private static void nothingOfAnOlderText() {
+        String less = "h2 3 4;h1 1 1;s4 5;p6;";
+        RingArticles x = new RingArticles();
+        for (int time = 0; time < 2; time++) {
+            Check.read(x, "h9 9 9;h9 9 9;h9 9 9;l0 1;l1 2;" + "s9 9;".repeat(5) + "p9;".repeat(5) + "w1;");
+            x.chases(3);
+            x.maroons(2);
+        }
+        Check.read(x, less);
+        RingArticles fresh = Check.crew(less);
+        Look.same("as told", Look.whole(fresh), Look.whole(x));
+        for (int i = -1; i <= 5; i++) {
+            Check.same("answers for " + i, answers(fresh, i), answers(x, i));
+        }
+    }
+
+    private static int[] answers(RingArticles x, int i) {
+        return Check.row(x.raid(i), x.deal(i), x.odds(i, 3, 0), x.won(i), x.split(i), x.band(i), x.holds(i),
+            x.mark(i, 0), x.mark(3, i), x.hand(i, 0), x.ship(i, 0), x.piece(i), x.keen());
+    }
+
     private static RingArticles full() {
         RingArticles x = Check.crew(Check.CREW);
         x.keep(1);
@@ -158,15 +207,16 @@ final class KindEdges {
         Sentences.of(TERMS, "Refused, and nothing changes,");
         RingArticles x = full();
         int[] got = {x.type(-1), x.type(256), x.articles(), x.chases(-1), x.chases(4), x.chases(1), x.votes(-1),
-            x.votes(4), x.votes(3), x.votes(0), x.maroons(-1), x.maroons(4), x.maroons(3), x.hides(-1, 1), x.hides(4, 1),
-            x.hides(0, 0), x.hides(0, 100), x.hides(3, 1), x.hides(0, 1), x.finds(-1), x.finds(4), x.finds(0),
+            x.votes(4), x.votes(3), x.votes(0), x.maroons(-1), x.maroons(4), x.maroons(3), x.hides(-1, 1),
+            x.hides(4, 1), x.hides(0, 0), x.hides(0, 100), x.hides(3, 1), x.hides(0, 1), x.finds(-1), x.finds(4),
+            x.finds(0),
             x.saw(0, 0), x.saw(16, 4), x.saw(2, 0), x.saw(5, 2), x.mark(-1, 0), x.mark(6, 0), x.mark(0, -1),
             x.mark(0, 4), x.keep(-1), x.keep(2), x.back(-1), x.back(2)};
         int bad = Check.BAD;
         int state = Check.STATE;
-        Check.same("answers", Check.row(bad, bad, -11, bad, bad, state, bad, bad, state, state, bad, bad, state, bad, bad,
-            bad, bad, state, state, bad, bad, state, bad, bad, bad, Check.FULL, Check.NO, Check.NO, Check.NO, Check.NO,
-            bad, bad, bad, bad), got);
+        Check.same("answers", Check.row(bad, bad, -11, bad, bad, state, bad, bad, state, state, bad, bad, state, bad,
+            bad, bad, bad, state, state, bad, bad, state, bad, bad, bad, Check.FULL, Check.NO, Check.NO, Check.NO,
+            Check.NO, bad, bad, bad, bad), got);
         RingArticles other = full();
         Look.same("nothing changes", Look.whole(other), Look.whole(x));
         x.undo();
@@ -216,7 +266,8 @@ final class KindEdges {
     /** What the interface says ahead of calls is no more than where they stand. */
     private static void headings() {
         String[] words = {
-            "Ahead of the calls `type`, `clear`, `articles`, `hand`, `ship`, `piece` the interface says: ---- the articles.",
+            "Ahead of the calls `type`, `clear`, `articles`, `hand`, `ship`, `piece` the interface says: "
+                + "---- the articles.",
             "Ahead of the calls `chases`, `shares`, `votes`, `maroons`, `hides`, `finds`, `undo`, `now` the interface "
                 + "says: ---- what is done.",
             "Ahead of the calls `due`, `holds`, `deal` the interface says: ---- shares.",

@@ -45,7 +45,7 @@ public final class OracleTest {
         while (calls < CALLS) {
             String text = random.nextInt(4) == 0 ? soup() : spoilt(words());
             tell(seed, text);
-            if (random.nextInt(4) != 0) {
+            if (random.nextInt(4) != 0 && calls < CALLS) {
                 due(seed, "clear()", oracle.clear(), x.clear());
             }
         }

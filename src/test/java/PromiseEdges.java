@@ -98,7 +98,8 @@ final class PromiseEdges {
         Check.due("ITEMS of every sort", 17, Check.read(x, Check.CREW));
         Check.due("THE TEXT is empty", 0, x.count(6));
         Check.due("again, by the empty text", 0, x.articles());
-        Check.same("nobody, nothing", Check.row(0, 0, 0, 10), Check.row(x.count(0), x.count(1), x.count(2), x.count(3)));
+        Check.same("nobody, nothing", Check.row(0, 0, 0, 10),
+            Check.row(x.count(0), x.count(1), x.count(2), x.count(3)));
         Check.tell(x, "p1;");
         Check.tell(x, "p2;");
         Check.due("typed in parts", 2, x.articles());
@@ -120,10 +121,18 @@ final class PromiseEdges {
         Look.same("nothing changes", Look.whole(other), Look.whole(x));
         Check.due("what is UNDONE stays", 0, x.undo());
         Check.due("IMAGES stay", 70, x.back(0));
+        x.type(' ');
+        x.type('1');
+        Check.due("FAULT is 10, though THE TEXT went on", -20, x.articles());
+        x.clear();
+        Check.tell(x, "p1");
+        Check.due("FAULT is 2, THE TEXT's length", -12, x.articles());
+        x.type(';');
+        Check.due("THE TEXT goes on and has no FAULT", 1, x.articles());
         x.clear();
         x.type('?');
         Check.due("FAULT is 0", -10, x.articles());
-        x.clear();
+        x = new RingArticles();
         Check.tell(x, " ".repeat(149) + "p");
         Check.due("FAULT is 150", -160, x.articles());
         x.clear();
@@ -342,27 +351,23 @@ final class PromiseEdges {
     }
 
     private static void now() {
-        Sentences.of("Promise 15", "0 THE CHEST, 1 CAPTAIN (NONE), 2 who is ABOARD (bits), 3 FORCE, 4 all PARTS together, "
-            + "5 SHIPS that were met (bits), 6 RIVALS (bits).");
+        Sentences.of("Promise 15", "0 THE CHEST, 1 CAPTAIN (NONE), 2 who is ABOARD (bits), 3 FORCE, 4 all PARTS "
+            + "together, 5 SHIPS that were met (bits), 6 RIVALS (bits).");
         RingArticles x = Check.crew("h1 2 0;h3 4 0;h5 6 0;l0 2;l1 2;l2 1;s0 9;s60 1;s0 1;s0 1;s12 9;");
         x.chases(0);
         x.chases(4);
         x.votes(2);
-        Check.same("three HANDS", Check.row(18, 2, 7, 12, 14, 17, 6), nows(x));
+        Check.same("three HANDS", Check.row(18, 2, 7, 12, 14, 17, 6), Rows.nows(x));
         x.chases(1);
         x.maroons(2);
-        Check.same("two HANDS", Check.row(18, 0, 3, 5, 5, 19, 0), nows(x));
+        Check.same("two HANDS", Check.row(18, 0, 3, 5, 5, 19, 0), Rows.nows(x));
         x.maroons(0);
         x.maroons(1);
-        Check.same("nobody", Check.row(18, Check.NONE, 0, 0, 0, 19, 0), nows(x));
+        Check.same("nobody", Check.row(18, Check.NONE, 0, 0, 0, 19, 0), Rows.nows(x));
         Sentences.of("Promise 15", "BAD.");
         for (int what : beyond(0, 6)) {
             Check.due("what " + what, Check.BAD, x.now(what));
         }
-    }
-
-    private static int[] nows(RingArticles x) {
-        return Check.row(x.now(0), x.now(1), x.now(2), x.now(3), x.now(4), x.now(5), x.now(6));
     }
 
     private static void keep() {

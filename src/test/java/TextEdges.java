@@ -55,6 +55,11 @@ final class TextEdges {
         Check.same("LIKES, the other way", Check.row(0, 1), Check.hands(x, 3));
         x = well(HAND.repeat(6) + "l0 1;l0 2;l0 3;l0 4;l0 5;l5 0;l5 4;l2 5;", 14);
         Check.same("LIKES of six", Check.row(62, 0, 32, 0, 0, 17), Check.hands(x, 3));
+        for (int time = 0; time < 2; time++) {
+            Check.read(x, HAND.repeat(2) + "l0 1;l1 0;?");
+            Check.read(x, HAND.repeat(2));
+            Check.same("nobody LIKES whom a text before told", Check.row(0, 0), Check.hands(x, 3));
+        }
         fault(HAND + "l0 0;", 10);
         fault(HAND.repeat(6) + "l5 5;", 45);
     }
@@ -129,6 +134,11 @@ final class TextEdges {
         x = well(HAND.repeat(2) + "l0 1;l0 1;l0 1;", 5);
         Check.due("told again", 2, x.hand(0, 3));
         fault("w10;w10;", 4);
+        x = new RingArticles();
+        for (int time = 0; time < 4; time++) {
+            Check.due("once in each text", 1, Check.read(x, "w5;"));
+            Check.due("once, and a FAULT", -13, Check.read(x, "w6;?"));
+        }
         fault("w0;w0;", 3);
     }
 
@@ -147,6 +157,9 @@ final class TextEdges {
         fault("p1:", 2);
         fault("p1<", 2);
         fault("p/;", 1);
+        fault("p1/;", 2);
+        fault("p/1;", 1);
+        fault("p1:;", 2);
         Check.due("09 is no NUMBER, 90 is", 90, well("p90;", 1).piece(0));
         Check.due("19", 19, well("p19;", 1).piece(0));
         fault("p1 9;", 3);
