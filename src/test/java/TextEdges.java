@@ -172,6 +172,11 @@ final class TextEdges {
             + "that begin no ITEM, a seventh hand, a sixth ship, a sixth piece, w again, B that is A, a NUMBER beyond "
             + "what it may be, too);");
         fault("x", 0);
+        for (String letter : new String[] {"h", "l", "s", "p", "w"}) {
+            RingArticles x = Check.crew("h1 0 0;h1 0 0;");
+            Check.due("'" + letter + "' ends too early", -11, Check.read(x, letter));
+            Check.due("'" + letter + letter + "' behind it begins no ITEM", -10, Check.read(x, letter + letter + "1;"));
+        }
         fault("p1;  hand 1 1 1;", 5);
         fault("7", 0);
         fault("p1; 7", 4);
