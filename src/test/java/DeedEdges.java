@@ -217,6 +217,11 @@ final class DeedEdges {
         Check.due("a WOUND is worth 0", 0, free.shares());
         Check.same("paid for 0 coins", Check.row(0, 2, 0),
             Check.row(free.hand(0, 5), free.hand(0, 6), free.hand(0, 7)));
+        RingArticles blind = Check.crew("h1 1 0;h1 2 9;s60 0;s60 0;w0;");
+        blind.chases(0);
+        blind.chases(1);
+        blind.shares();
+        Check.same("a WOUND is worth 0, and he has no PISTOL", Check.row(0, 0), Check.hands(blind, 7));
         RingArticles dear = Check.crew("h1 0 0;s1 0;s0 50;w50;");
         dear.chases(0);
         dear.chases(1);

@@ -20,6 +20,7 @@ public final class FaceTest {
         constants();
         methods();
         constructor();
+        classesInside();
         Check.end();
     }
 
@@ -63,6 +64,36 @@ public final class FaceTest {
         Check.due("the constructor is public", 1, Modifier.isPublic(all[0].getModifiers()) ? 1 : 0);
         int wanted = Modifier.PUBLIC | Modifier.FINAL;
         Check.due("the class is public and final", wanted, RingArticles.class.getModifiers() & wanted);
+    }
+
+    /** Rules 1, 2, 5 and 11 of ../shared/LANGUAGE.md, as far as they can be seen in the classes. */
+    private static void classesInside() {
+        Set<String> names = new TreeSet<>();
+        for (String method : METHODS) {
+            names.add(method.replaceAll("^\\w+ |\\(.*", ""));
+        }
+        fields(RingArticles.class);
+        for (Class<?> inside : RingArticles.class.getDeclaredClasses()) {
+            String name = inside.getSimpleName();
+            int shown = inside.getModifiers() & (Modifier.PUBLIC | Modifier.PROTECTED | Modifier.STATIC);
+            Check.due(name + " is static, neither public nor protected", Modifier.STATIC, shown);
+            for (Method method : inside.getDeclaredMethods()) {
+                Check.due(name + "." + method.getName() + " is named as no call is", 0,
+                    names.contains(method.getName()) ? 1 : 0);
+            }
+            fields(inside);
+        }
+    }
+
+    private static void fields(Class<?> owner) {
+        int own = 0;
+        for (Field field : owner.getDeclaredFields()) {
+            boolean shared = Modifier.isStatic(field.getModifiers());
+            own += shared ? 0 : 1;
+            Check.due(owner.getSimpleName() + "." + field.getName() + " is static and not a final number", 0,
+                shared && !(Modifier.isFinal(field.getModifiers()) && field.getType() == int.class) ? 1 : 0);
+        }
+        Check.due(owner.getSimpleName() + " has 20 fields at most, it has " + own, 1, own <= 20 ? 1 : 0);
     }
 
     private static String signature(Method method) {

@@ -11,6 +11,7 @@ final class KindEdges {
         images();
         imagesHoldAllOfNow();
         imagesOfManySteps();
+        imagesOfEveryStep();
         readAnew();
         nothingOfAnOlderText();
         refused();
@@ -55,6 +56,15 @@ final class KindEdges {
         x.mark(6, 0);
         x.mark(0, 2);
         Check.due("refused: THE TRACE stays", 4 * 111226 + 101 + 100001, x.trace());
+        RingArticles paid = Check.crew("h5 0 0;s1 0;s0 9;w3;");
+        paid.chases(0);
+        paid.chases(1);
+        paid.shares();
+        Check.same("a WOUND that was paid", Check.row(5, 5, 4, 10, 4, 7), Rows.marks(paid, 0));
+        paid.undo();
+        paid.hides(0, 1);
+        paid.finds(0);
+        Check.same("his nose, too", Check.row(5, 5, 3, 10, 3, 7), Rows.marks(paid, 0));
     }
 
     private static void images() {
@@ -139,6 +149,30 @@ final class KindEdges {
         }
         Check.due("older ones are lost", Check.STATE, x.undo());
         Look.same("as ahead of them all", Look.at(twin), Look.at(x));
+    }
+
+    /** Other deeds are done where those stood that the IMAGE knows, so that each of them is the IMAGE's own. */
+    private static void imagesOfEveryStep() {
+        for (int image = 0; image <= 1; image++) {
+            RingArticles x = Check.crew("h1 0 0;s0 99;");
+            x.chases(0);
+            for (int n = 1; n <= 10; n++) {
+                x.hides(0, n);
+            }
+            x.keep(image);
+            for (int left = 9; left >= 0; left--) {
+                x.undo();
+            }
+            for (int i = 0; i < 12; i++) {
+                x.hides(0, 2);
+            }
+            x.back(image);
+            for (int n = 10; n >= 1; n--) {
+                Check.due("may be UNDONE, IMAGE " + image, n - 1, x.undo());
+                Check.due("what he hid ahead of " + n + ", IMAGE " + image, n * (n - 1) / 2, x.hand(0, 8));
+            }
+            Check.due("no more", Check.STATE, x.undo());
+        }
     }
 
     private static int undoneChest(RingArticles x) {

@@ -131,8 +131,10 @@ final class TextEdges {
         fault("l0 1;" + HAND.repeat(2), 1);
         fault(HAND + "l0 1;" + HAND, 10);
         fault(HAND + "l1 0;" + HAND, 8);
-        x = well(HAND.repeat(2) + "l0 1;l0 1;l0 1;", 5);
+        x = well(HAND.repeat(2) + "l0 1;l0 1;", 4);
         Check.due("told again", 2, x.hand(0, 3));
+        x = well(HAND.repeat(2) + "l0 1;l0 1;l0 1;", 5);
+        Check.due("told once more", 2, x.hand(0, 3));
         fault("w10;w10;", 4);
         x = new RingArticles();
         for (int time = 0; time < 4; time++) {
