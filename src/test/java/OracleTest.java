@@ -35,9 +35,24 @@ public final class OracleTest {
         while (calls < CALLS) {
             if (random.nextInt(150) == 0) {
                 tell(seed, random.nextInt(3) == 0 ? spoilt(words()) : words());
+            } else if (random.nextInt(150) == 0) {
+                nobodyIsAboard(seed);
             } else {
                 call(seed);
             }
+        }
+    }
+
+    /** By single calls it is seldom that a whole crew is MAROONED and asked for then. */
+    private void nobodyIsAboard(int seed) {
+        for (int h = 0; h < 6 && calls < CALLS; h++) {
+            due(seed, "maroons(" + h + ")", oracle.maroons(h), x.maroons(h));
+        }
+        for (int i = 0; i < 8 && calls < CALLS; i++) {
+            asked(seed);
+        }
+        for (int h = 0; h < 6 && calls < CALLS; h++) {
+            due(seed, "undo()", oracle.undo(), x.undo());
         }
     }
 
@@ -87,7 +102,7 @@ public final class OracleTest {
             item(text, 'p', 1 + random.nextInt(small == 3 ? 4 : 99));
         }
         if (random.nextBoolean()) {
-            item(text, 'w', random.nextInt(51));
+            item(text, 'w', random.nextInt(4) == 0 ? 0 : random.nextInt(51));
         }
         return text.length() > 150 ? text.substring(0, 150) : text.toString();
     }
